@@ -240,7 +240,7 @@ public final class GrammarTables {
 
     private void addArrows(int slot, int fromSpots, int toSpots) {
         for (int p = 0; p < SPOTS; p++) {
-            if ((fromSpots >> p & 1) == 1) {
+            if (((fromSpots >> p) & 1) == 1) {
                 arrows[slot * SPOTS + p] |= toSpots;
             }
         }
@@ -251,7 +251,7 @@ public final class GrammarTables {
         int y = depth - 1;
         int shift = spotCounts[x];
         int yBegins = arrows[y * SPOTS + START] << shift;
-        int yEmpty = ends[y] & 1 << START;
+        int yEmpty = ends[y] & (1 << START);
         int yEnds = (ends[y] ^ yEmpty) << shift;
         for (int p = 0; p < spotCounts[y] && shift + p < START; p++) {
             arrows[x * SPOTS + shift + p] = arrows[y * SPOTS + p] << shift;
@@ -272,7 +272,7 @@ public final class GrammarTables {
     private int spotsAfter(int slot, int spots, int l) {
         int after = 0;
         for (int p = 0; p < SPOTS; p++) {
-            if ((spots >> p & 1) == 1) {
+            if (((spots >> p) & 1) == 1) {
                 after |= arrows[slot * SPOTS + p];
             }
         }
@@ -333,7 +333,7 @@ public final class GrammarTables {
                 int mark = groups[set];
                 for (int l = 0; l < LETTERS; l++) {
                     int after = spotsAfter(slot, set, l);
-                    mark = mark << SPOT_SET_BITS | groups[after];
+                    mark = (mark << SPOT_SET_BITS) | groups[after];
                 }
                 marks[set] = mark;
             }
@@ -549,7 +549,7 @@ public final class GrammarTables {
     // ---- useful rules, begins and follows
 
     private boolean inUse(int r) {
-        return (rulesInUse >> r & 1) == 1;
+        return ((rulesInUse >> r) & 1) == 1;
     }
 
     private int rightSymbols(int r) {
@@ -575,12 +575,12 @@ public final class GrammarTables {
     // The first rule counts as in use always: what follows symbol 3 is told by it.
     private void findRulesInUse() {
         int ending = endingSymbols();
-        int reached = ending & 1 << GOAL;
+        int reached = ending & (1 << GOAL);
         rulesInUse = 1 << FIRST_RULE;
         for (int round = 0; round < VARIABLES; round++) {
             for (int r = 0; r < ruleCount; r++) {
                 int right = rightSymbols(r);
-                if ((reached >> lefts[r] & 1) == 1 && (right & ~ending) == 0) {
+                if (((reached >> lefts[r]) & 1) == 1 && (right & ~ending) == 0) {
                     reached |= right;
                     rulesInUse |= 1 << r;
                 }
@@ -659,19 +659,19 @@ public final class GrammarTables {
 
     private void addItems(int r) {
         if (r != FIRST_RULE) {
-            openItems[lefts[r]] |= 1L << r * PLACES;
+            openItems[lefts[r]] |= 1L << (r * PLACES);
         }
         for (int p = 0; p < rightSizes[r]; p++) {
-            long item = 1L << r * PLACES + p;
+            long item = 1L << (r * PLACES + p);
             nextItems[rights[r * RIGHT_MAX + p]] |= item;
             int rest = beginsFrom(r, p + 1);
             for (int t = 0; t < LOOKS; t++) {
-                if ((rest >> t & 1) == 1) {
+                if (((rest >> t) & 1) == 1) {
                     restItems[t] |= item;
                 }
             }
         }
-        nextItems[COMPLETE] |= 1L << r * PLACES + rightSizes[r];
+        nextItems[COMPLETE] |= 1L << (r * PLACES + rightSizes[r]);
     }
 
     private void findStates() {
@@ -780,7 +780,7 @@ public final class GrammarTables {
             for (int v = KINDS; v < SYMBOLS; v++) {
                 int opened = looksOpened(looks, base, v);
                 for (int t = 0; t < LOOKS; t++) {
-                    if ((opened >> t & 1) == 1 && (openItems[v] & ~looks[base + t]) != 0) {
+                    if (((opened >> t) & 1) == 1 && (openItems[v] & ~looks[base + t]) != 0) {
                         looks[base + t] |= openItems[v];
                         changed = true;
                     }
@@ -848,8 +848,8 @@ public final class GrammarTables {
     private long followedItems(int t) {
         long followed = ~nextItems[COMPLETE];
         for (int r = 0; r <= FIRST_RULE; r++) {
-            if (inUse(r) && (followSets[lefts[r]] >> t & 1) == 1) {
-                followed |= 1L << r * PLACES + rightSizes[r];
+            if (inUse(r) && ((followSets[lefts[r]] >> t) & 1) == 1) {
+                followed |= 1L << (r * PLACES + rightSizes[r]);
             }
         }
         return followed;
@@ -902,7 +902,7 @@ public final class GrammarTables {
 
     private boolean clashesAt(long[] looks, int base, int t) {
         long complete = looks[base + t] & nextItems[COMPLETE];
-        if ((complete & complete - 1) != 0) {
+        if ((complete & (complete - 1)) != 0) {
             return true;
         }
         if (complete == 0 || t == END) {
@@ -993,7 +993,7 @@ public final class GrammarTables {
 
     private int ruleOf(long complete) {
         int item = 0;
-        while (item < FIRST_ITEM && (complete >> item & 1) == 0) {
+        while (item < FIRST_ITEM && ((complete >> item) & 1) == 0) {
             item++;
         }
         return item / PLACES;
