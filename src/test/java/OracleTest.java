@@ -153,10 +153,16 @@ public final class OracleTest {
         if (slow.isUnknown()) {
             return;
         }
-        due("reads()", fast.reads(), slow.reads());
-        due("stopsAt()", fast.stopsAt(), slow.stopsAt());
-        due("uses()", fast.uses(), slow.uses());
-        due("value()", fast.value(), slow.value());
+        // each of them comes first now and then, and so finds what another one would have found
+        int first = at(4);
+        for (int n = 0; n < 4; n++) {
+            switch ((first + n) % 4) {
+                case 0 -> due("reads()", fast.reads(), slow.reads());
+                case 1 -> due("stopsAt()", fast.stopsAt(), slow.stopsAt());
+                case 2 -> due("uses()", fast.uses(), slow.uses());
+                default -> due("value()", fast.value(), slow.value());
+            }
+        }
         GRADES[10] += fast.reads() ? 1 : 0;
         int n = slow.uses();
         int[] asked = {-1, 0, 1, at(10), n / 2, n - 1, n, 199, 200};
@@ -253,7 +259,29 @@ public final class OracleTest {
             }
             addRule(known[r][0], right);
         }
-        askAll();
+        askAll(2);
+        while (calls < 330) {
+            changeRules();
+            askAll(1);
+        }
+    }
+
+    /** Some of the last rules go, and others come in their places. */
+    private void changeRules() {
+        int taken = 1 + at(lefts.size());
+        List<List<Integer>> again = new ArrayList<>();
+        for (int n = 0; n < taken; n++) {
+            unrule();
+            again.add(0, new ArrayList<>(rights.remove(rights.size() - 1)));
+            again.get(0).add(0, lefts.remove(lefts.size() - 1));
+        }
+        for (List<Integer> rule : again) {
+            int v = rule.remove(0);
+            if (at(3) == 0) {
+                change(rule);
+            }
+            addRule(v, rule);
+        }
     }
 
     private void change(List<Integer> right) {
@@ -273,15 +301,18 @@ public final class OracleTest {
         rights.add(right);
     }
 
-    private void askAll() {
-        askGrammar();
-        for (int n = 0; n < 8; n++) {
+    private void askAll(int texts) {
+        if (at(2) == 0) {
+            askGrammar();
+        }
+        for (int n = 0; n < texts; n++) {
             writeText();
-            askTokens();
+            if (at(2) == 0) {
+                askTokens();
+            }
             askReading();
         }
-        unrule();
-        askReading();
+        askGrammar();
     }
 
     private void grammar(boolean plainRights) {
@@ -300,7 +331,9 @@ public final class OracleTest {
                 due("grade()", fast.grade(), slow.isUnknown() ? fast.grade() : slow.grade());
             }
         }
-        askAll();
+        askAll(8);
+        unrule();
+        askReading();
     }
 
     /** Letters of a list that symbol 3 derives, if one is found, with a mistake now and then. */

@@ -4,6 +4,7 @@ public final class ReadTest {
 
     public static void main(String[] args) {
         everyGrade();
+        eachAskedFirst();
         wrongText();
         stops();
         stopsLate();
@@ -68,6 +69,41 @@ public final class ReadTest {
         dueRead("grade 3, by rule 5", x, 2 + 1 + 2 * 7 + 3, 5, 1);
         Grammars.write(x, 1, 2, 2);
         dueUnread("grade 3", x, 2);
+    }
+
+    private static GrammarTables freshPair() {
+        GrammarTables x = Grammars.load(new int[][] {{3, 0, 3, 1}, {3, 2}});
+        Grammars.plainKinds(x);
+        Grammars.write(x, 0, 2, 1);
+        return x;
+    }
+
+    // On a new object, and after the text, a pattern or the rules have changed.
+    private static void eachAskedFirst() {
+        CHECK.due("reads first", freshPair().reads(), true);
+        due("stopsAt first", freshPair().stopsAt(), 3);
+        due("uses first", freshPair().uses(), 2);
+        due("used first", freshPair().used(0), 1);
+        due("value first", freshPair().value(), 11);
+        GrammarTables x = freshPair();
+        x.value();
+        x.letter(1);
+        x.letter(1);
+        due("stopsAt for more text", x.stopsAt(), 3);
+        Grammars.write(x, 2);
+        due("value for other text", x.value(), 3);
+        Grammars.write(x, 0, 0, 2, 1, 1);
+        due("uses for other text", x.uses(), 3);
+        Grammars.add(x, 3, 2, 2);
+        Grammars.write(x, 2, 2);
+        due("used for other rules", x.used(0), 2);
+        x.leaf(2);
+        x.repeat(1);
+        x.kind(2);
+        due("value for another pattern", x.value(), 2 + 2);
+        x.unrule();
+        x.unrule();
+        due("stopsAt without an end", x.stopsAt(), GrammarTables.NONE);
     }
 
     private static void wrongText() {

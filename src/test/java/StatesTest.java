@@ -10,6 +10,7 @@ public final class StatesTest {
         uselessRulesDoNotCount();
         endIsNotSymbolThree();
         changes();
+        nothingIsLeftOver();
         CHECK.end();
     }
 
@@ -67,5 +68,23 @@ public final class StatesTest {
             x.grade();
         }
         dueAll("no rules left", x, GrammarTables.NONE, GrammarTables.NONE, GrammarTables.NONE);
+    }
+
+    // Each grammar after each other one on the same object.
+    private static void nothingIsLeftOver() {
+        for (Grammars.Case before : Grammars.CASES) {
+            for (Grammars.Case c : Grammars.CASES) {
+                GrammarTables x = Grammars.load(before.rules());
+                x.grade();
+                while (x.unrule() > 0) {
+                    continue;
+                }
+                for (int[] rule : c.rules()) {
+                    Grammars.add(x, rule);
+                }
+                String name = Arrays.deepToString(c.rules()) + " after " + Arrays.deepToString(before.rules());
+                dueAll(name, x, c.states(), c.wideStates(), c.grade());
+            }
+        }
     }
 }
