@@ -79,6 +79,16 @@ final class Grammars {
     private Grammars() {
     }
 
+    /** Rules written as digits, each its left and then its right: "304 40" is 3 becomes 0 4, and 4 becomes 0. */
+    static int[][] rules(String digits) {
+        String[] words = digits.split(" ");
+        int[][] rules = new int[words.length][];
+        for (int r = 0; r < words.length; r++) {
+            rules[r] = words[r].chars().map(c -> c - '0').toArray();
+        }
+        return rules;
+    }
+
     /** Adds the rules, and answers the object. */
     static GrammarTables load(int[]... rules) {
         GrammarTables x = new GrammarTables();

@@ -394,6 +394,12 @@ final class SlowTables {
         return wide.size();
     }
 
+    /** The grade as it would be without limits. */
+    int gradeWithoutLimits() {
+        prepare();
+        return grade;
+    }
+
     private boolean ends(List<Integer> symbols, Set<Integer> ending) {
         return symbols.stream().allMatch(s -> s < 3 || ending.contains(s));
     }
