@@ -293,6 +293,13 @@ public final class StatesEdgeTest {
         dueGrade("following mixes, looks do not", "3405 35 415 42 54", 2);
         dueGrade("looks mix in states, not in wide states", "3040 3150 3051 3141 42 52", 3);
         dueGrade("looks mix in a wide state", "3040 3150 3051 3141 42 52 3050", 4);
+        // the same items in states that were found one after the other, with looks that come late
+        dueGrade("looks that come late", "3340 431 3", 4);
+        dueGrade("looks that come late", "3341 4320 3", 4);
+        dueGrade("looks that come late", "33341 432 3", 4);
+        dueGrade("looks that come late", "3340 43222 32", 4);
+        dueGrade("looks that come late", "3411 432 541 405 4", 4);
+        dueGrade("looks that come late", "3332 432 31402 32012", 4);
     }
 
     // ---- promise 28
